@@ -93,7 +93,7 @@ public final class LinkAuditor {
         if (reader.pageFault(pad, padLength) != NONE) {
             return BAD_TEXT;
         }
-        record();
+        keepState();
         site.rememberSections(page);
         site.replaceSource(page, pad, padLength);
         padLength = 0;
@@ -108,7 +108,7 @@ public final class LinkAuditor {
         if (!site.now.hasSource(page)) {
             return NOT_POSSIBLE;
         }
-        record();
+        keepState();
         site.rememberSections(page);
         site.replaceSource(page, pad, 0);
         return site.now.sources();
@@ -222,7 +222,7 @@ public final class LinkAuditor {
         if (site.now.redirects >= REDIRECTS_MOST) {
             return TOO_MANY;
         }
-        record();
+        keepState();
         site.now.addRedirect(fromPage, fromAnchor, toPage, toAnchor);
         padLength = 0;
         return site.now.redirects;
@@ -233,7 +233,7 @@ public final class LinkAuditor {
         if (!isRedirect(redirect)) {
             return NO_SUCH;
         }
-        record();
+        keepState();
         site.now.dropRedirect(redirect);
         return site.now.redirects;
     }
@@ -515,21 +515,21 @@ public final class LinkAuditor {
         return found;
     }
 
-    /** Writes a place as the target of a link; the state before is recorded if this begins a change. */
+    /** Writes a place as the target of a link; the state before is kept if this begins a change. */
     private int writePlace(int page, int link, int toPage, long toAnchor, boolean begins) {
         int length = site.spellTarget(page, link, toPage, toAnchor);
         if (length > TEXT_MOST) {
             return TOO_MANY;
         }
         if (begins) {
-            record();
+            keepState();
         }
         site.writeTarget(page, link);
         return length;
     }
 
     /** Keeps the state as it is before a change; the row of the oldest one is used again. */
-    private void record() {
+    private void keepState() {
         if (changes >= CHANGES_MOST) {
             State oldest = history[0];
             for (int change = 1; change < CHANGES_MOST; change++) {
@@ -984,7 +984,7 @@ public final class LinkAuditor {
             headings = 0;
             replaced = 0;
             underWay = 0;
-            for (int section = 0; section < SECTIONS_MOST; section++) {
+            for (int section = 0; section < outlines[page].sections; section++) {
                 headingOf[section] = NONE;
             }
             addPage(outlines, page, 0, 0);
@@ -1197,8 +1197,8 @@ public final class LinkAuditor {
             page = outline.linkPage[link];
             anchor = outline.linkAnchor[link];
             heading = NONE;
-            followed = 0;
-            while (followed < STEPS_MOST && !wasHere()) {
+            kind = CIRCULAR;
+            for (followed = 0; followed < STEPS_MOST && !wasHere(); followed++) {
                 pageAt[followed] = page;
                 anchorAt[followed] = anchor;
                 if (isGood()) {
@@ -1210,7 +1210,6 @@ public final class LinkAuditor {
                     return;
                 }
             }
-            kind = CIRCULAR;
         }
 
         int usesOf(int redirect) {
@@ -1255,7 +1254,6 @@ public final class LinkAuditor {
                 return false;
             }
             redirectAt[followed] = redirect;
-            followed++;
             page = now.toPage[redirect];
             if (!whole || now.toAnchor[redirect] != NO_ANCHOR) {
                 anchor = now.toAnchor[redirect];
@@ -1274,9 +1272,10 @@ public final class LinkAuditor {
         int page = 0;
         int heading = NONE;
         long anchor = NO_ANCHOR;
-        private final char[] wanted = new char[ANCHOR_MOST];
+        private long wanted = NO_ANCHOR;
+        private final char[] wantedText = new char[ANCHOR_MOST];
         private int wantedLength = 0;
-        private final char[] tried = new char[ANCHOR_MOST];
+        private final char[] triedText = new char[ANCHOR_MOST];
         private final int[] row = new int[ANCHOR_MOST + 1];
 
         Mender(Site ofSite) {
@@ -1285,24 +1284,25 @@ public final class LinkAuditor {
 
         /** Candidates come in the order in which they are preferred, so that only a lower cost counts. */
         void find(Outline outline, int link) {
-            int namedPage = outline.linkPage[link];
-            long namedAnchor = outline.linkAnchor[link];
+            int named = outline.linkPage[link];
+            wanted = outline.linkAnchor[link];
+            wantedLength = Anchors.spell(wanted, wantedText, 0);
             cost = DEAR;
-            page = namedPage;
+            page = named;
             heading = NONE;
             anchor = NO_ANCHOR;
-            wantedLength = Anchors.spell(namedAnchor, wanted, 0);
-            int entry = site.now.entryWith(namedPage, namedAnchor);
+            int entry = site.now.entryWith(named, wanted);
             int digest = entry == NONE ? NOT_REMEMBERED : site.now.entryDigest[entry];
             for (int next = 0; next < PAGES; next++) {
-                if (site.now.hasSource(next)) {
-                    boolean away = next != namedPage;
-                    if (namedAnchor == NO_ANCHOR) {
-                        offer(4 + Math.abs(next - namedPage), next, NONE, NO_ANCHOR);
-                    } else {
-                        offer(away ? 10 : 6, next, NONE, NO_ANCHOR);
-                        offerHeadings(next, away ? 4 : 0, digest);
-                    }
+                if (!site.now.hasSource(next)) {
+                    continue;
+                }
+                if (wanted == NO_ANCHOR) {
+                    offer(4 + Math.abs(next - named), next, NONE, NO_ANCHOR);
+                } else {
+                    int extra = next == named ? 0 : 4;
+                    offer(6 + extra, next, NONE, NO_ANCHOR);
+                    offerHeadings(next, extra, digest);
                 }
             }
         }
@@ -1333,7 +1333,13 @@ public final class LinkAuditor {
 
         /** The number of steps to an anchor, or some number from the limit on if it is not below it. */
         private int stepsTo(long place, int limit) {
-            int triedLength = Anchors.spell(place, tried, 0);
+            if (place == wanted) {
+                return 0;
+            }
+            if (limit <= 1) {
+                return limit;
+            }
+            int triedLength = Anchors.spell(place, triedText, 0);
             if (Math.abs(wantedLength - triedLength) >= limit) {
                 return limit;
             }
@@ -1354,7 +1360,7 @@ public final class LinkAuditor {
             row[0] = line;
             int least = line;
             for (int column = 1; column <= triedLength; column++) {
-                int changed = corner + (wanted[line - 1] == tried[column - 1] ? 0 : 1);
+                int changed = corner + (wantedText[line - 1] == triedText[column - 1] ? 0 : 1);
                 corner = row[column];
                 row[column] = Math.min(changed, 1 + Math.min(corner, row[column - 1]));
                 least = Math.min(least, row[column]);
