@@ -51,10 +51,11 @@ public final class FaceTest {
             int modifiers = field.getModifiers();
             if (!Modifier.isPrivate(modifiers)) {
                 found.add(field.getName());
-                boolean constant = Modifier.isPublic(modifiers) && Modifier.isStatic(modifiers) && Modifier.isFinal(modifiers);
-                CHECK.is("constant " + field.getName(), constant && field.getType() == int.class ? 1 : 0, 1);
+                CHECK.is("modifiers of " + field.getName(), modifiers, Modifier.PUBLIC | Modifier.STATIC | Modifier.FINAL);
+                CHECK.same("type of " + field.getName(), field.getType().getName(), "int");
             }
-            CHECK.is("static and not final: " + field, Modifier.isStatic(modifiers) && !Modifier.isFinal(modifiers) ? 1 : 0, 0);
+            boolean changing = Modifier.isStatic(modifiers) && !Modifier.isFinal(modifiers);
+            CHECK.is("static and not final: " + field, changing ? 1 : 0, 0);
         }
         CHECK.same("constants", found.toString(), new TreeSet<>(Set.of(CONSTANTS)).toString());
         for (int index = 0; index < CONSTANTS.length; index++) {

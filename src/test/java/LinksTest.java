@@ -147,6 +147,11 @@ public final class LinksTest {
         links(x, 'A', 2, DIRECT, 1, 1, 0, 1, 1);
         links(x, 'A', 3, DIRECT, 1, 0, 0, 1, NONE);
         CHECK.is("16 a link of an included page", x.link(1, 0, 0), NO_SUCH);
+        Check.load(x, 'C', "=s;".repeat(21) + "[#s-9],[#s-10],[#s-19],[#s-20],[#s-21]");
+        int[] headings = {9, 10, 19, 20, NONE};
+        for (int link = 0; link < 5; link++) {
+            CHECK.is("16 a number of two digits", x.link(2, link, 5), headings[link]);
+        }
     }
 
     private static void redirectedLinks() {

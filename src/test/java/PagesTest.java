@@ -164,7 +164,8 @@ public final class PagesTest {
     private static void numbers(LinkAuditor x, char page, int heading, int... parts) {
         for (int part = 0; part < 10; part++) {
             int due = part < parts.length ? parts[part] : 0;
-            CHECK.is("9 part " + (part + 1) + " of " + page + " " + heading, x.heading(page - 'A', heading, 3 + part), due);
+            String call = "9 heading(" + page + ", " + heading + ", " + (3 + part) + ")";
+            CHECK.is(call, x.heading(page - 'A', heading, 3 + part), due);
         }
     }
 
@@ -216,6 +217,10 @@ public final class PagesTest {
         Check.load(x, 'I', "{J+1}");
         CHECK.is("9 level 10", x.heading(7, 1, 0), 10);
         numbers(x, 'H', 1, 0, 0, 0, 0, 0, 0, 0, 0, 0, 2);
+        Check.load(x, 'I', "{J}");
+        CHECK.is("9 an include without a number", x.heading(7, 1, 0), 9);
+        Check.load(x, 'I', "{J+0}");
+        CHECK.is("9 an include with 0", x.heading(7, 1, 0), 9);
         Check.load(x, 'L', "{A+2};=z");
         CHECK.is("9 an include that is left out", x.about(11, 2), 1);
         CHECK.is("9 level in its own page", x.heading(11, 0, 0), 1);
@@ -240,6 +245,10 @@ public final class PagesTest {
         for (int page : OUTSIDE) {
             CHECK.is("10 anchor(" + page + ", 0, 0)", x.anchor(page, 0, 0), NO_SUCH);
         }
+        Check.load(x, 'C', "=az09zy18;=z;=a9");
+        CHECK.same("10 letters and digits", Check.anchor(x, 'C', 0), "az09zy18");
+        CHECK.same("10 a letter", Check.anchor(x, 'C', 1), "z");
+        CHECK.same("10 a digit", Check.anchor(x, 'C', 2), "a9");
         Check.load(x, 'C', "=abcdefgh;".repeat(15) + "=abcdefgh");
         Check.load(x, 'D', "{C};{C};{C};{C};{C};{C};{C};{C}");
         CHECK.same("10 two digits", Check.anchor(x, 'D', 10), "abcdefgh-10");
@@ -268,6 +277,9 @@ public final class PagesTest {
         }
         Check.load(x, 'B', "p;q");
         CHECK.is("11 found anew", x.section(0, 1, 1), 1);
+        Check.load(x, 'A', "=a;=b;c");
+        CHECK.is("11 lines found anew", x.section(0, 0, 2), 0);
+        CHECK.is("11 lines found anew", x.section(0, 1, 2), 1);
     }
 
     private static void digests() {

@@ -12,8 +12,11 @@ public final class RepairsTest {
         memoryOfLeftOut();
         repairWithoutAnchor();
         repairBySteps();
+        repairsOneAfterAnother();
         repairTies();
         repairByMemory();
+        repairOfCircularLinks();
+        repairByLongAnchors();
         repairErrors();
         mend();
         mendLength();
@@ -67,7 +70,9 @@ public final class RepairsTest {
         Check.load(x, 'A', "q");
         CHECK.is("19 the same place", x.memory(-1, 0), 3);
         CHECK.is("19 oldest", x.memory(0, 2), 2);
+        CHECK.is("19 its digest", x.memory(0, 1), 8653 + 'q' - 'a');
         CHECK.is("19 another page", x.memory(1, 0), 1);
+        CHECK.is("19 its digest", x.memory(1, 1), 8653 + 'r' - 'a');
         CHECK.is("19 newest", x.memory(2, 0), 0);
         CHECK.is("19 newest", x.memory(2, 1), (31 * (31 * 7 + ';') + 's') % 1000003);
         CHECK.is("19 no section has it", x.memory(2, 3), 0);
@@ -88,6 +93,11 @@ public final class RepairsTest {
         CHECK.is("19 b", x.memory(8, 2), 1);
         CHECK.is("19 b-31", x.memory(39, 2), 4);
         CHECK.is("19 no 41st", x.memory(40, 0), NONE);
+        Check.load(x, 'C', "=abcdefgh;".repeat(10) + "=abcdefgh;p");
+        x.remove(2);
+        CHECK.is("19 the longest anchor", x.memory(39, 2), 11);
+        x.undo();
+        x.undo();
         Check.load(x, 'B', "=b;z");
         x.remove(1);
         CHECK.is("19 the same place", x.memory(-1, 0), 40);
@@ -155,6 +165,18 @@ public final class RepairsTest {
         repairs(x, 'C', 2, 6, 2, 1);
     }
 
+    /** What was found for one link leaves nothing behind for the next one. */
+    private static void repairsOneAfterAnother() {
+        LinkAuditor x = new LinkAuditor();
+        Check.load(x, 'A', "=abc;[#abd],[#q],[#abcdef],[L]");
+        for (int times = 0; times < 2; times++) {
+            repairs(x, 'A', 0, 2, 0, 0);
+            repairs(x, 'A', 1, 6, 0, NONE);
+            repairs(x, 'A', 2, 6, 0, NONE);
+            repairs(x, 'A', 3, 15, 0, NONE);
+        }
+    }
+
     private static void repairTies() {
         LinkAuditor x = new LinkAuditor();
         Check.load(x, 'A', "=abcde;[#ab],[#abc],[B#x]");
@@ -189,6 +211,37 @@ public final class RepairsTest {
         repairs(x, 'A', 0, 1, 0, 1);
         Check.load(x, 'D', "[C#old]");
         repairs(x, 'D', 0, 6, 0, 0);
+    }
+
+    private static void repairOfCircularLinks() {
+        LinkAuditor x = new LinkAuditor();
+        Check.load(x, 'A', "=a;[B#b],[B]");
+        Check.redirect(x, "B>C");
+        Check.redirect(x, "C>B");
+        CHECK.is("20 circular", x.link(0, 0, 0), 2);
+        repairs(x, 'A', 0, 6, 0, 0);
+        repairs(x, 'A', 1, 5, 0, NONE);
+        CHECK.is("21 a circular link", x.mend(0, 0), 11);
+        CHECK.is("22 a circular link", x.mendAll(), 1);
+        CHECK.same("22 the source", Check.source(x, 'A'), "=a;[#a],[A]");
+    }
+
+    private static void repairByLongAnchors() {
+        LinkAuditor x = new LinkAuditor();
+        Check.load(x, 'B', "=zz09yyyy;".repeat(12) + "=q");
+        Check.load(x, 'A', "[B#zz09yyyy-12],[C#zz09yyyy-10],[B#zz09yyyy-10],[B#zz09yyyy-41]");
+        repairs(x, 'A', 0, 2, 1, 1);
+        repairs(x, 'A', 1, 4, 1, 10);
+        CHECK.is("20 a number of two digits", x.link(0, 2, 5), 10);
+        repairs(x, 'A', 3, 2, 1, 1);
+        Check.load(x, 'D', "[B#zz09xyyy-10],[B#zz09yyxx-11]");
+        repairs(x, 'D', 0, 2, 1, 10);
+        repairs(x, 'D', 1, 4, 1, 11);
+        x.remove(3);
+        CHECK.is("21 the longest target", x.mend(0, 1), 63);
+        CHECK.is("22 the others", x.mendAll(), 2);
+        String due = "[B#zz09yyyy-1],[B#zz09yyyy-10],[B#zz09yyyy-10],[B#zz09yyyy-1]";
+        CHECK.same("22 the source", Check.source(x, 'A'), due);
     }
 
     private static void repairErrors() {

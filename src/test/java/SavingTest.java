@@ -53,6 +53,21 @@ public final class SavingTest {
         CHECK.is("24 redirect", x.undo(), 2);
         CHECK.is("24 redirects", x.count(2), 2);
         CHECK.is("24 its place is free", Check.redirect(x, "C>E"), 3);
+        x.unredirect(2);
+        x.unredirect(1);
+        Check.redirect(x, "K>L");
+        Check.redirect(x, "L#l>K");
+        for (int times = 0; times < 4; times++) {
+            x.undo();
+        }
+        int[][] due = {{0, 0, 1, 0}, {1, 1, 2, 1}, {2, 0, 4, 0}};
+        for (int redirect = 0; redirect < 3; redirect++) {
+            for (int what = 0; what < 4; what++) {
+                String call = "24 redirection(" + redirect + ", " + what + ")";
+                CHECK.is(call, x.redirection(redirect, what), due[redirect][what]);
+            }
+        }
+        CHECK.is("24 the anchor is back", Check.redirect(x, "B#b>A"), NOT_POSSIBLE);
     }
 
     private static void undoOfRepairs() {
@@ -90,6 +105,21 @@ public final class SavingTest {
         x.undo();
         CHECK.is("24 nothing is remembered by undo", x.count(3), 0);
         x.remove(0);
+        CHECK.is("24 remove", x.count(3), 2);
+        Check.load(x, 'B', "=other;s");
+        x.remove(1);
+        Check.load(x, 'A', "=a;t");
+        x.remove(0);
+        CHECK.is("24 a is the newest", x.memory(2, 2), 1);
+        x.undo();
+        CHECK.is("24 a is the oldest again", x.memory(0, 2), 1);
+        CHECK.is("24 its page", x.memory(0, 0), 0);
+        CHECK.is("24 its digest", x.memory(0, 1), 8653 + 'p' - 'a');
+        CHECK.is("24 the newest", x.memory(2, 0), 1);
+        CHECK.is("24 its length", x.memory(2, 2), 5);
+        for (int times = 0; times < 3; times++) {
+            x.undo();
+        }
         CHECK.is("24 remove", x.count(3), 2);
         x.undo();
         CHECK.is("24 remove is undone", x.count(3), 0);
