@@ -14,6 +14,7 @@ public final class ExpansionBoundsTest {
         twoHundredIncludes();
         twoHundredIncludesOneInside();
         leftOutIncludesDoNotCount();
+        twoHundredIncludesOfEachExpansion();
         pagesUnderWay();
         deepestInclude();
         levelsByIncludes();
@@ -182,6 +183,25 @@ public final class ExpansionBoundsTest {
         CHECK.is("11 one of D", x.section(0, 0, 1), 1);
     }
 
+    /** The 200 includes and the 100 lines are those of one expansion, not of all that were made. */
+    private static void twoHundredIncludesOfEachExpansion() {
+        Run run = new Run().loaded('B', "=b").loaded('A', lines("{B}", 40)).loaded('C', lines("{A}", 2) + ";=c");
+        for (int times = 0; times < 30; times++) {
+            run = run.loaded('D', "d" + times);
+        }
+        LinkAuditor x = run.made();
+        about(x, 0, 1, 40);
+        about(x, 0, 2, 40);
+        about(x, 2, 1, 81);
+        CHECK.is("11 the heading of C", x.section(2, 0, 1), 80);
+        for (int times = 0; times < 30; times++) {
+            x.remove(1);
+            about(x, 0, 2, 0);
+            x.undo();
+            about(x, 0, 2, 40);
+        }
+    }
+
     /** "is one whose expansion is under way (the page itself, or one in which it is included)". */
     private static void pagesUnderWay() {
         LinkAuditor x = new Run().loaded('A', "=a;{A};=b").made();
@@ -322,6 +342,9 @@ public final class ExpansionBoundsTest {
     private static void anchorsOfTheSameName() {
         LinkAuditor x = new Run().loaded('A', "=a;=a1;=a;==a1;=b;===a;=a11").made();
         anchors(x, 'A', "a", "a1", "a-1", "a1-1", "b", "a-2", "a11");
+        // The first and the last letter and digit at each place.
+        x = new Run().loaded('A', "=a;=z;=a0;=a9;=z0;=z9;=az09az09;=zzzzzzzz;=z0000000;=a9999999;=aaaaaaaa").made();
+        anchors(x, 'A', "a", "z", "a0", "a9", "z0", "z9", "az09az09", "zzzzzzzz", "z0000000", "a9999999", "aaaaaaaa");
         for (String name : new String[] {"a", "abcdefgh", "z9999999"}) {
             x = new Run().loaded('B', lines("=" + name, 10)).loaded('A', lines("{B}", 10)).made();
             about(x, 0, 2, 100);

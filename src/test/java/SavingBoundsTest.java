@@ -13,6 +13,7 @@ public final class SavingBoundsTest {
         whatIsNoChange();
         tenChanges();
         elevenChanges();
+        undoOfAFullMemory();
         undoAndChangeAgain();
         undoLeavesThePad();
         countErrors();
@@ -155,6 +156,35 @@ public final class SavingBoundsTest {
             CHECK.is("24 the oldest is dropped", run.undone(11).answer(), NOT_POSSIBLE);
             same("24 nothing happens", Everything.after(run.undone(11)), Everything.after(run.undone(10)));
             CHECK.is("24 B has its source", run.undone(11).made().count(0) & 2, 2);
+        }
+    }
+
+    /** Entries that moved up, went as the oldest ones or were removed first are back in their places. */
+    private static void undoOfAFullMemory() {
+        List<Run> runs = new ArrayList<>();
+        Run first = new Run().loaded('A', "=a;p;=bb;q;=ccc;r").loaded('B', "=a;s;=dddd;t").loaded('C', "=e;u").redirected("D>E");
+        // Five pages with seven sections each, so that 41 entries come together.
+        for (char page = 'G'; page <= 'K'; page++) {
+            StringBuilder seven = new StringBuilder("x");
+            for (int number = 0; number < 7; number++) {
+                seven.append(";=").append((char) (page + 32)).append(number).append(";z").append(number);
+            }
+            first = first.loaded(page, seven.toString());
+        }
+        runs.add(first.removed('G'));
+        runs.add(last(runs).removed('B'));
+        runs.add(last(runs).removed('A'));
+        runs.add(last(runs).loaded('B', "=a;v"));
+        runs.add(last(runs).removed('B'));
+        for (char page = 'H'; page <= 'K'; page++) {
+            runs.add(last(runs).removed(page));
+        }
+        runs.add(last(runs).removed('C'));
+        runs.add(last(runs).loaded('B', "=dddd;w"));
+        CHECK.is("19 full", last(runs).made().memory(-1, 0), 40);
+        CHECK.is("19 the oldest one is gone", last(runs).made().memory(0, 1), Digests.of(";z1"));
+        for (int times = 1; times <= 10; times++) {
+            same("24 the memory, " + times + " undone", state(last(runs).undone(times)), state(runs.get(runs.size() - 1 - times)));
         }
     }
 

@@ -235,6 +235,19 @@ public final class SectionBoundsTest {
         x = run.loaded('B', "=a;w").removed('B').made();
         CHECK.is("19 entries", x.memory(-1, 0), 4);
         entry(x, 3, 1, 1, Digests.of(";w"));
+        // The same anchor of a page before or behind it is another place.
+        x = new Run().loaded('B', "=a;p").removed('B').loaded('A', "=a;q").removed('A').loaded('C', "=a;r").removed('C').made();
+        CHECK.is("19 entries", x.memory(-1, 0), 3);
+        entry(x, 0, 1, 1, Digests.of(";p"));
+        entry(x, 1, 0, 1, Digests.of(";q"));
+        entry(x, 2, 2, 1, Digests.of(";r"));
+        // And so is the same name with a number, with another one, or with a digit.
+        x = new Run().loaded('A', "=a;p;=a;q;=a;r;=a1;s").removed('A').loaded('A', "=a1;t;=a;u").removed('A').made();
+        CHECK.is("19 entries", x.memory(-1, 0), 4);
+        entry(x, 0, 0, 3, Digests.of(";q"));
+        entry(x, 1, 0, 3, Digests.of(";r"));
+        entry(x, 2, 0, 2, Digests.of(";t"));
+        entry(x, 3, 0, 1, Digests.of(";u"));
     }
 
     /** Remembers one section of A by two calls: of the name n and a number. */
