@@ -101,13 +101,9 @@ public final class LinkBoundsTest {
         Run eleven = run.undone(1);
         for (int index = 0; index < places.length - 1; index++) {
             for (String to : new String[] {">K", ">C#c-3"}) {
-                Run again = eleven.typed(places[index] + to);
-                CHECK.is("13 again from " + places[index], again.and("redirect", LinkAuditor::redirect).answer(), NOT_POSSIBLE);
+                Refusals refusals = new Refusals(CHECK, "13 pad " + places[index] + to, eleven.typed(places[index] + to));
+                refusals.refused("redirect", NOT_POSSIBLE, LinkAuditor::redirect);
             }
-        }
-        for (String pad : new String[] {"A>C", "A#a-10>K", "B#a>K#k"}) {
-            Refusals refusals = new Refusals(CHECK, "13 pad " + pad, eleven.typed(pad));
-            refusals.refused("redirect", NOT_POSSIBLE, LinkAuditor::redirect);
         }
         Run free = eleven.and("unredirect", x -> x.unredirect(1));
         CHECK.is("13 the place is free again", free.redirected("A#a>C").answer(), 11);

@@ -155,17 +155,18 @@ public final class PageBoundsTest {
             CHECK.is("7 the length", x.character(11, -1), length);
             CHECK.is("7 the first", x.character(11, 0), source.charAt(0));
             CHECK.is("7 the last", x.character(11, length - 1), source.charAt(length - 1));
+            Refusals refusals = new Refusals(CHECK, "7 a source of " + length, new Run().loaded('L', source));
             int[] outside = {length, length + 1, 160, 161, 1920, -2, -160, Integer.MIN_VALUE, Integer.MAX_VALUE};
             for (int index : outside) {
-                CHECK.is("7 character(11, " + index + ")", x.character(11, index), NONE);
-                CHECK.is("7 without a source", x.character(10, index), NOT_POSSIBLE);
-                CHECK.is("7 no page", x.character(12, index), NO_SUCH);
-                CHECK.is("7 no page", x.character(-1, index), NO_SUCH);
+                refusals.refused("character(11, " + index + ")", NONE, y -> y.character(11, index));
+                refusals.refused("character(10, " + index + ")", NOT_POSSIBLE, y -> y.character(10, index));
+                refusals.refused("character(12, " + index + ")", NO_SUCH, y -> y.character(12, index));
+                refusals.refused("character(-1, " + index + ")", NO_SUCH, y -> y.character(-1, index));
             }
             for (int index : new int[] {-1, 0}) {
-                CHECK.is("7 without a source", x.character(0, index), NOT_POSSIBLE);
+                refusals.refused("character(0, " + index + ")", NOT_POSSIBLE, y -> y.character(0, index));
                 for (int page : NO_PAGES) {
-                    CHECK.is("7 character(" + page + ", " + index + ")", x.character(page, index), NO_SUCH);
+                    refusals.refused("character(" + page + ", " + index + ")", NO_SUCH, y -> y.character(page, index));
                 }
             }
         }

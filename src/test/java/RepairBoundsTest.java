@@ -333,13 +333,18 @@ public final class RepairBoundsTest {
         CHECK.is("21 as long", x.mend(0, 0), 160);
         CHECK.same("21 as long", Check.source(x, 'A'), filled("=ab;[#ab],m", 160));
         // The link stands at the end of a full source.
-        x = new Run().loaded('A', "=abc;" + "n,".repeat(75) + "[#ac]").made();
-        CHECK.is("21 160", x.character(0, -1), 160);
-        CHECK.is("21 longer at the end", x.mend(0, 0), TOO_MANY);
-        x = new Run().loaded('A', "=abc;" + "n,".repeat(74) + "n;[#ac]").made();
-        CHECK.is("21 longer at the end", x.mend(0, 0), TOO_MANY);
-        x = new Run().loaded('A', "=ab;" + "n,".repeat(75) + "[#ac]").made();
-        CHECK.is("21 as long at the end", x.mend(0, 0), 159);
+        for (String end : new String[] {",[#ac]", ";[#ac]"}) {
+            Run full = new Run().loaded('A', "=abc;" + "n,".repeat(74) + "n" + end);
+            CHECK.is("21 160", full.made().character(0, -1), 160);
+            new Refusals(CHECK, "21 at the end", full).refused("mend", TOO_MANY, y -> y.mend(0, 0));
+            Run fits = new Run().loaded('A', "=abcd;" + "n,".repeat(73) + "n" + end);
+            CHECK.is("21 159", fits.made().character(0, -1), 159);
+            new Refusals(CHECK, "21 two more at the end", fits).refused("mend", TOO_MANY, y -> y.mend(0, 0));
+        }
+        x = new Run().loaded('A', "=abc;nn," + "n,".repeat(73) + "[#ac]").made();
+        CHECK.is("21 159", x.character(0, -1), 159);
+        CHECK.is("21 one more at the end", x.mend(0, 0), 160);
+        CHECK.same("21 one more at the end", Check.source(x, 'A'), "=abc;nn," + "n,".repeat(73) + "[#abc]");
     }
 
     /** "Other links, sections and the memory are found anew by this source, but nothing is remembered." */
@@ -453,14 +458,14 @@ public final class RepairBoundsTest {
         x = run.loaded('A', filled("[D#abcdefgh-10],m", 160)).made();
         CHECK.is("23 shorter", x.straighten(0, 0), 148);
         // Within its page the letter is left out; with an anchor the target is one longer than before.
-        x = run.loaded('A', filled("=a;[E],m", 160)).made();
-        CHECK.is("23 too long by one", x.straighten(0, 0), TOO_MANY);
+        Run tooLong = run.loaded('A', filled("=a;[E],m", 160));
+        new Refusals(CHECK, "23 too long by one", tooLong).refused("straighten", TOO_MANY, y -> y.straighten(0, 0));
         x = run.loaded('A', filled("=a;[E],m", 159)).made();
         CHECK.is("23 not too long", x.straighten(0, 0), 160);
         CHECK.same("23 the source", Check.source(x, 'A'), filled("=a;[#a],m", 160));
         // NOT_POSSIBLE comes before TOO_MANY, NO_SUCH before both.
-        x = run.loaded('A', filled("[K],m", 160)).made();
-        CHECK.is("23 a lost link", x.straighten(0, 0), NOT_POSSIBLE);
-        CHECK.is("23 no link", x.straighten(0, 1), NO_SUCH);
+        Refusals lost = new Refusals(CHECK, "23 a lost link", run.loaded('A', filled("[K],m", 160)));
+        lost.refused("straighten(0, 0)", NOT_POSSIBLE, y -> y.straighten(0, 0));
+        lost.refused("straighten(0, 1)", NO_SUCH, y -> y.straighten(0, 1));
     }
 }
